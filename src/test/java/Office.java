@@ -1,0 +1,86 @@
+import java.nio.charset.StandardCharsets;
+
+/** What the tests share: texts onto the tape, and a count of the answers that are not due. */
+final class Office {
+    static final long NOTHING = UnlikeLoaves.NOTHING;
+    private static int wrong = 0;
+    private static int looked = 0;
+
+    private Office() {
+    }
+
+    static void due(String call, long got, long want) {
+        looked++;
+        if (got != want) {
+            wrong++;
+            System.out.println(call + " answered " + got + ", due is " + want);
+        }
+    }
+
+    static void due(String call, boolean got, boolean want) {
+        due(call, got ? 1 : 0, want ? 1 : 0);
+    }
+
+    /** Ends the test: with exit code 1, if an answer was wrong. */
+    static void end() {
+        System.out.println(looked + " answers looked at, " + wrong + " wrong");
+        System.exit(wrong == 0 && looked > 0 ? 0 : 1);
+    }
+
+    static void feed(UnlikeLoaves x, int... bytes) {
+        x.end(0);
+        int[] all = new int[(bytes.length + 19) / 20 * 20];
+        for (int i = 0; i < all.length; i++) {
+            all[i] = i < bytes.length ? bytes[i] & 255 : 0;
+        }
+        for (int i = 0; i < all.length; i += 20) {
+            x.feed(four(all, i), four(all, i + 4), four(all, i + 8), four(all, i + 12), four(all, i + 16));
+        }
+        x.end(bytes.length);
+    }
+
+    private static int four(int[] all, int i) {
+        return all[i] << 24 | all[i + 1] << 16 | all[i + 2] << 8 | all[i + 3];
+    }
+
+    static void feed(UnlikeLoaves x, String text) {
+        byte[] bytes = text.getBytes(StandardCharsets.ISO_8859_1);
+        int[] numbers = new int[bytes.length];
+        for (int i = 0; i < numbers.length; i++) {
+            numbers[i] = bytes[i];
+        }
+        feed(x, numbers);
+    }
+
+    static int open(UnlikeLoaves x, String text) {
+        feed(x, text);
+        return x.office();
+    }
+
+    static UnlikeLoaves of(String text) {
+        UnlikeLoaves x = new UnlikeLoaves();
+        if (open(x, text) == UnlikeLoaves.NONE) {
+            due("office of " + text, -1, 0);
+        }
+        return x;
+    }
+
+    static long ask(UnlikeLoaves x, String text) {
+        feed(x, text);
+        return x.ask();
+    }
+
+    static int see(UnlikeLoaves x, int... rows) {
+        feed(x, rows);
+        return x.see();
+    }
+
+    /** The set of these sizes. */
+    static int set(int... sizes) {
+        int set = 0;
+        for (int size : sizes) {
+            set |= 1 << (size - 1);
+        }
+        return set;
+    }
+}
