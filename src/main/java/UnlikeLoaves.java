@@ -487,7 +487,7 @@ public final class UnlikeLoaves {
     }
 
     private int draw(int m) {
-        seed = (int) ((1103515245L * seed + 12345L) & Integer.MAX_VALUE);
+        seed = (int) (1103515245L * seed + 12345L & 0x7fffffffL);
         return m > 0 ? (seed / 64) % m : 0;
     }
 
@@ -684,7 +684,9 @@ public final class UnlikeLoaves {
         }
 
         boolean fail(int what) {
-            return failAt(what, at);
+            fault = what;
+            place = at;
+            return false;
         }
 
         boolean failAt(int what, int where) {
@@ -825,7 +827,7 @@ public final class UnlikeLoaves {
         static final int PIECES = 11;
         static final int FACTS = PIECES + MOST_SIZES + 1;
 
-        static final long HELD = 1000000;
+        static final int HELD = 1000000;
 
         final int[] steps = new int[TAPE_ROOM];
         // With six open at once no more than some forty numbers wait.
@@ -902,7 +904,10 @@ public final class UnlikeLoaves {
         }
 
         private static int hold(long number) {
-            return (int) Math.max(-HELD, Math.min(HELD, number));
+            if (number > HELD) {
+                return HELD;
+            }
+            return number < -HELD ? -HELD : (int) number;
         }
     }
 
@@ -1320,9 +1325,24 @@ public final class UnlikeLoaves {
                 return addPieces();
             }
             if (scanner.isWord("costs")) {
-                return readCosts();
+                boolean told = draft.costsTold;
+                draft.costsTold = true;
+                return beginsOnce(told) && phrases.readSum(draft.costs, Phrases.COSTS);
             }
-            return scanner.isWord("likes") ? readLikes() : scanner.fail(1);
+            if (scanner.isWord("likes")) {
+                boolean told = draft.likesTold;
+                draft.likesTold = true;
+                return beginsOnce(told) && phrases.readTest(draft.likes, Phrases.LIKES);
+            }
+            return scanner.fail(1);
+        }
+
+        private boolean beginsOnce(boolean told) {
+            if (told) {
+                return scanner.fail(5);
+            }
+            scanner.advance();
+            return true;
         }
 
         private int failed() {
@@ -1382,24 +1402,6 @@ public final class UnlikeLoaves {
             draft.told[size] = pieces;
             scanner.advance();
             return true;
-        }
-
-        private boolean readCosts() {
-            if (draft.costsTold) {
-                return scanner.fail(5);
-            }
-            draft.costsTold = true;
-            scanner.advance();
-            return phrases.readSum(draft.costs, Phrases.COSTS);
-        }
-
-        private boolean readLikes() {
-            if (draft.likesTold) {
-                return scanner.fail(5);
-            }
-            draft.likesTold = true;
-            scanner.advance();
-            return phrases.readTest(draft.likes, Phrases.LIKES);
         }
     }
 
@@ -1779,6 +1781,8 @@ public final class UnlikeLoaves {
     /** What would be: days ahead, cuts, feasts, odds, and how many pieces there can be. */
     private static final class Outlook {
         static final int MOST_CUTS = 3;
+        // Above the 2300 rows that three loaves have.
+        static final int CUT_ROWS = 10000;
         static final int FEAST_WAYS = 8;
         static final int SEEN_DAYS = 31;
         static final int STOCKS = 31;
@@ -1830,20 +1834,29 @@ public final class UnlikeLoaves {
         int fewestCuts() {
             int most = Math.min(MOST_CUTS, now.stock[1]);
             for (int loaves = 0; loaves <= most; loaves++) {
-                if (cutsFrom(0, loaves, 2)) {
-                    return loaves;
+                fillCutRow(0, 2);
+                boolean more = true;
+                for (int i = 0; i < CUT_ROWS && more; i++) {
+                    if (cutsServe(loaves)) {
+                        return loaves;
+                    }
+                    more = nextCutRow(loaves);
                 }
             }
             return NONE;
         }
 
-        private boolean cutsFrom(int k, int loaves, int least) {
-            if (k >= loaves || k >= MOST_CUTS) {
-                return cutsServe(loaves);
+        private void fillCutRow(int from, int size) {
+            for (int k = from; k < MOST_CUTS; k++) {
+                cutRow[k] = size;
             }
-            for (int n = least; n <= rules.finest; n++) {
-                cutRow[k] = n;
-                if (cutsFrom(k + 1, loaves, n)) {
+        }
+
+        /** The next row of sizes, none less than the one ahead of it; false behind the last. */
+        private boolean nextCutRow(int loaves) {
+            for (int k = loaves - 1; k >= 0; k--) {
+                if (cutRow[k] < rules.finest) {
+                    fillCutRow(k, cutRow[k] + 1);
                     return true;
                 }
             }
@@ -1943,6 +1956,10 @@ public final class UnlikeLoaves {
                 return 0;
             }
             watch(size, days);
+            return stocksAsSeen();
+        }
+
+        private int stocksAsSeen() {
             int bits = 0;
             for (int pieces = 0; pieces < STOCKS; pieces++) {
                 if (isAsSeen(pieces)) {
@@ -1973,12 +1990,15 @@ public final class UnlikeLoaves {
         }
 
         boolean findTelling(int size) {
-            int possible = possibleStocks(size);
             int days = comingDays();
-            if (possible == 0 || days < 1 || rules.people < 1) {
+            if (days < 1 || days <= lastSeenDay() || rules.people < 1) {
                 return false;
             }
             watch(size, days);
+            int possible = stocksAsSeen();
+            if (possible == 0) {
+                return false;
+            }
             int all = Integer.bitCount(possible);
             tellingLeft = all + 1;
             for (int d = 0; d < days; d++) {
