@@ -1255,6 +1255,29 @@ public final class UnlikeLoaves {
             return rows[person * WAYS_ROOM + k];
         }
 
+        /** All sizes of the writings of his due that have none but these. */
+        int sizesOfWaysWithin(int person, int sizes) {
+            int all = 0;
+            for (int k = 0; k < ways[person]; k++) {
+                int set = wayOf(person, k);
+                if ((set & ~sizes) == 0) {
+                    all |= set;
+                }
+            }
+            return all;
+        }
+
+        /** The first writing of his due that has none but these sizes; 0 without one. */
+        int firstWayWithin(int person, int sizes) {
+            for (int k = 0; k < ways[person]; k++) {
+                int set = wayOf(person, k);
+                if ((set & ~sizes) == 0) {
+                    return set;
+                }
+            }
+            return 0;
+        }
+
         boolean isWayOf(int person, int set) {
             for (int k = 0; k < ways[person]; k++) {
                 if (wayOf(person, k) == set) {
@@ -1623,13 +1646,19 @@ public final class UnlikeLoaves {
             return sum;
         }
 
-        boolean holds(int set) {
+        /** The sizes of which there is a piece. */
+        int inStock() {
+            int sizes = 0;
             for (int n = 1; n <= MOST_SIZES; n++) {
-                if ((set >> (n - 1) & 1) == 1 && stock[n] < 1) {
-                    return false;
+                if (stock[n] > 0) {
+                    sizes |= 1 << (n - 1);
                 }
             }
-            return true;
+            return sizes;
+        }
+
+        boolean holds(int set) {
+            return (set & ~inStock()) == 0;
         }
 
         /** A piece of each size comes (1) or goes (-1). */
@@ -1726,11 +1755,16 @@ public final class UnlikeLoaves {
 
         /** The first writing of his due that the stock has and he likes; 0 without one. */
         int choose(State state, int person) {
+            // The likes are reckoned only of sizes that matter: that is the dear part of a day.
+            int wanted = rules.sizesOfWaysWithin(person, state.inStock());
+            if (wanted == 0) {
+                return 0;
+            }
             facts[Formula.DAY] = state.day;
             facts[Formula.HUNGER] = state.hunger[person];
             int good = 0;
             for (int n = 1; n <= rules.finest; n++) {
-                if ((rules.fitting[person] >> (n - 1) & 1) == 1 && state.stock[n] > 0) {
+                if ((wanted >> (n - 1) & 1) == 1) {
                     facts[Formula.SIZE] = n;
                     facts[Formula.STOCK] = state.stock[n];
                     if (rules.likes.reckon(facts) != 0) {
@@ -1738,13 +1772,7 @@ public final class UnlikeLoaves {
                     }
                 }
             }
-            for (int k = 0; k < rules.ways[person]; k++) {
-                int set = rules.wayOf(person, k);
-                if ((set & ~good) == 0) {
-                    return set;
-                }
-            }
-            return 0;
+            return rules.firstWayWithin(person, good);
         }
 
         /** Who is served, as bits. */
@@ -1891,10 +1919,11 @@ public final class UnlikeLoaves {
             if (without > 0 && seat(person + 1, without - 1)) {
                 return true;
             }
+            int sizes = then.inStock();
             int ways = Math.min(FEAST_WAYS, rules.ways[person]);
             for (int k = 0; k < ways; k++) {
                 int set = rules.wayOf(person, k);
-                if (then.holds(set)) {
+                if ((set & ~sizes) == 0) {
                     then.move(set, -1);
                     feastRow[person] = k;
                     if (seat(person + 1, without)) {
