@@ -75,6 +75,34 @@ final class Office {
         return x.see();
     }
 
+    /** An image by its numbers: the DAY, the stock size by size, then hunger and times of each person. */
+    static int[] image(int day, int[] stock, int... people) {
+        int[] bytes = new int[3 + 2 * stock.length + people.length / 2 * 3];
+        int at = 0;
+        bytes[at++] = day / 256;
+        bytes[at++] = day % 256;
+        for (int pieces : stock) {
+            bytes[at++] = pieces / 256;
+            bytes[at++] = pieces % 256;
+        }
+        for (int p = 0; p + 1 < people.length; p += 2) {
+            bytes[at++] = people[p];
+            bytes[at++] = people[p + 1] / 256;
+            bytes[at++] = people[p + 1] % 256;
+        }
+        int check = 229;
+        for (int i = 0; i < at; i++) {
+            check = (3 * check + bytes[i]) % 251;
+        }
+        bytes[at] = check;
+        return bytes;
+    }
+
+    static boolean on(UnlikeLoaves x, int... image) {
+        feed(x, image);
+        return x.on();
+    }
+
     /** The set of these sizes. */
     static int set(int... sizes) {
         int set = 0;
