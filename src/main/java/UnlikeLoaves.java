@@ -1099,7 +1099,9 @@ public final class UnlikeLoaves {
 
         private boolean part(int open) {
             if (scanner.kind == Scanner.NUMBER) {
-                return constant();
+                int number = scanner.seeNumber();
+                scanner.advance();
+                return number != NONE && putWith(Formula.PUSH, number);
             }
             if (scanner.isSign('(')) {
                 return opens(open) && sum(open + 1) && scanner.takeSign(')');
@@ -1122,15 +1124,6 @@ public final class UnlikeLoaves {
             }
             scanner.advance();
             return putWith(Formula.FACT, named);
-        }
-
-        private boolean constant() {
-            int number = scanner.seeNumber();
-            if (number == NONE) {
-                return false;
-            }
-            scanner.advance();
-            return putWith(Formula.PUSH, number);
         }
 
         private boolean pair(int open, int code) {
