@@ -689,10 +689,9 @@ public final class UnlikeLoaves {
             return false;
         }
 
-        boolean failAt(int what, int where) {
+        void failAt(int what, int where) {
             fault = what;
             place = where;
-            return false;
         }
 
         boolean isSign(char sign) {

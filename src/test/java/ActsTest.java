@@ -123,6 +123,11 @@ public final class ActsTest {
         }
         Office.due("day", x.has(3), 100);
         Office.due("one act", x.has(9), 1);
+        Office.open(x, "finest 24;have 99 by 24;mice 100;");
+        x.seed(9);
+        int finest = x.chance(100);
+        Office.due("the finest is had, too", finest > 0, true);
+        Office.due("the finest left", x.stock(24), 99 - finest);
         // The draw goes on where nothing is to be had.
         Office.open(x, "finest 2;person a due 1 of 2;have 1 by 2;mice 100;likes 1=2;");
         x.seed(5);

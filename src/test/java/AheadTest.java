@@ -82,6 +82,18 @@ public final class AheadTest {
         Office.due("feast(-1)", x.feast(-1), 1);
         Office.due("days(1)", x.days(1), -1);
         Office.due("status(3)", x.status(3), 3);
+        Office.open(x, "finest 4;person a due 1 of 1;have 2 by 1;likes hunger>1 or day>900;");
+        Office.due("on", Office.on(x, Office.image(998, new int[] {2, 0, 0, 0}, 0, 0)), true);
+        Office.due("served(0)", x.served(0), 0);
+        Office.due("on", Office.on(x, Office.image(999, new int[] {2, 0, 0, 0}, 0, 0)), true);
+        Office.due("no day, served(0)", x.served(0), -1);
+        Office.due("no day, cuts(-1)", x.cuts(-1), -1);
+        Office.due("no day, person(0, 5)", x.person(0, 5), 1);
+        Office.open(x, "finest 4;person a due 1 of 1;have 2 by 1;likes hunger>1;");
+        Office.due("on", Office.on(x, Office.image(997, new int[] {2, 0, 0, 0}, 0, 0)), true);
+        Office.due("too few days", x.served(0), -1);
+        Office.due("on", Office.on(x, Office.image(996, new int[] {2, 0, 0, 0}, 0, 0)), true);
+        Office.due("just enough", x.served(0), 2);
     }
 
     private static void cuts() {
@@ -103,6 +115,15 @@ public final class AheadTest {
         Office.open(x, "finest 6;person a due 5 of 6;have 1 by 1;");
         Office.due("too few loaves", x.cuts(-1), -1);
         Office.due("too few loaves, the first", x.cuts(0), -1);
+        // A loaf that is cut is no loaf any longer.
+        Office.open(x, "finest 3;person a due 1 of 1;person b due 1 of 2;have 1 by 1;");
+        Office.due("one loaf for both", x.cuts(-1), -1);
+        x.bake(1);
+        Office.due("two loaves", x.cuts(-1), 1);
+        x.bake(9);
+        Office.due("still one to be cut", x.cuts(-1), 1);
+        Office.open(x, "finest 3;person a due 1 of 7;have 9 by 1;");
+        Office.due("never", x.cuts(-1), -1);
         // Loaves that are baked next day can't be cut now, but be served.
         Office.open(x, "finest 6;person a due 1 of 1;bakes 1;");
         Office.due("baked", x.cuts(-1), 0);
@@ -158,6 +179,23 @@ public final class AheadTest {
         Office.due("both", x.feast(-1), 2);
         Office.due("a by third and sixth", x.feast(0), 1);
         Office.due("b by loaf and half", x.feast(1), 0);
+        // One for three: the last one, whose row comes first.
+        Office.open(x, "finest 6;person a due 1 of 3;person b due 1 of 3;person c due 1 of 3;have 1 by 3;");
+        Office.due("one of three", x.feast(-1), 1);
+        Office.due("a", x.feast(0), -1);
+        Office.due("b", x.feast(1), -1);
+        Office.due("c", x.feast(2), 0);
+        // Two halves, a third and a sixth: not all three of a half, though it is tried in many ways.
+        Office.open(x, "finest 6;most 2;person a due 1 of 2;person b due 1 of 2;person c due 1 of 2;person d due 1 of 2;"
+            + "have 2 by 2;have 1 by 3;have 1 by 6;");
+        Office.due("three of four", x.feast(-1), 3);
+        Office.due("a", x.feast(0), -1);
+        Office.due("b", x.feast(1), 0);
+        Office.due("c", x.feast(2), 0);
+        Office.due("d", x.feast(3), 1);
+        Office.open(x, "finest 6;person a due 1 of 3;have 1 by 2;");
+        Office.due("nobody", x.feast(-1), 0);
+        Office.due("a", x.feast(0), -1);
         // Likes and loaves to be baked do not count.
         Office.open(x, "finest 6;person a due 1 of 2;person b due 1 of 1;have 1 by 2;likes 1=2;bakes 3;");
         Office.due("whatever they like", x.feast(-1), 1);
@@ -193,6 +231,12 @@ public final class AheadTest {
         Office.due("odds(-2)", x.odds(-2), -1);
         Office.open(x, "finest 4;person a due 1 of 2;person b due 1 of 2;have 2 by 2;");
         Office.due("no mice", x.odds(1), 400);
+        Office.open(x, "finest 4;person a due 1 of 1;have 1 by 1;");
+        Office.due("no mice, one loaf", x.odds(0), 400);
+        Office.open(x, "finest 4;person a due 1 of 1;have 1 by 1;mice 1;");
+        Office.due("hardly a mouse", x.odds(0), 399);
+        Office.open(x, "finest 24;person a due 1 of 24;have 1 by 24;mice 100;");
+        Office.due("the finest size", x.odds(0), 2300);
         Office.open(x, "finest 4;person a due 1 of 2;have 1 by 2;mice 100;");
         Office.due("mice always", x.odds(0), 300);
         // The mice come ahead of the baking.

@@ -63,6 +63,18 @@ public final class AskTest {
         good(x, "most stock stock stock 12", 0);
         good(x, "total fits fits 2+stock fits 1", 0);
         good(x, " \nmost\n7 ", 7);
+        good(x, "last number=0", 0);
+        good(x, "first number=2", 2);
+        good(x, "most 5-number", 5);
+        good(x, "most number", 2);
+        good(x, "most 0-5-number", -5);
+        good(x, "most 0-(number-1)*(number-1)", 0);
+        good(x, "least 5-number", 3);
+        good(x, "least number+5", 5);
+        good(x, "least (number-1)*(number-1)", 0);
+        UnlikeLoaves y = Office.of("finest 24;person a due 1 of 24;have 4 by 1;have 5 by 24;");
+        good(y, "total stock 1*10+stock 24", 45);
+        good(y, "total fits 1*10+fits 24", 1);
     }
 
     private static void numbers() {
@@ -122,6 +134,12 @@ public final class AskTest {
         wrong("often 1", 1, 7);
         wrong("often all;", 1, 9);
         wrong("often all all", 1, 10);
+        wrong("often all and", 1, 13);
+        wrong("often all or", 1, 12);
+        wrong("often all and size", 1, 14);
+        wrong("total 2*", 1, 8);
+        wrong("total 2*size", 1, 8);
+        wrong("total 2-", 1, 8);
         wrong("total all", 1, 6);
         wrong("total 1=1", 1, 7);
         wrong("total size", 1, 6);

@@ -49,6 +49,7 @@ public final class OfficeTextTest {
         wrong(";", 1, 0);
         wrong("most 3;", 1, 0);
         wrong("fin", 1, 0);
+        wrong("binest 9;", 1, 0);
         wrong("Finest 9;", 1, 0);
         wrong("finest", 1, 6);
         wrong("finest  ", 1, 8);
@@ -94,6 +95,11 @@ public final class OfficeTextTest {
         wrong("finest 9;likes (all);", 1, 16);
         wrong("finest 9;likes all all;", 1, 19);
         wrong("finest 9;likes all or;", 1, 21);
+        wrong("finest 9;likes all and;", 1, 22);
+        wrong("finest 9;likes all and place", 1, 23);
+        wrong("finest 9;likes all or all and place=1", 1, 30);
+        wrong("finest 9;costs 2*;", 1, 17);
+        wrong("finest 9;costs 2*hunger", 1, 17);
         wrong("finest 9;likes not;", 1, 18);
         wrong("finest 9;likes 1<2or all;", 1, 18);
         wrong("finest 9;likes stock 2>1;", 1, 21);
@@ -147,6 +153,11 @@ public final class OfficeTextTest {
         wrong("finest 9;costs (((((((1)))))));", 4, 21);
         good("finest 9;costs ((((((1))))))+((((((1))))));", 2);
         wrong("finest 9;costs ((((((min(1,2)))))));", 4, 24);
+        good("finest 9;costs min(min(min(min(min(min(1,2),2),2),2),2),2);", 2);
+        wrong("finest 9;costs min(min(min(min(min(min((1),2),2),2),2),2),2);", 4, 39);
+        good("finest 9;costs max(2,max(2,max(2,max(2,max(2,max(2,1))))));", 2);
+        wrong("finest 9;costs max(2,max(2,max(2,max(2,max(2,max(2,(1)))))));", 4, 51);
+        good("finest 9;costs max(2,(((((1))))))+max((((((1))))),2);", 2);
         good("finest 9;likes not not not not not not all;", 2);
         wrong("finest 9;likes not not not not not not not all;", 4, 39);
         good("finest 9;likes not not not not not not all and not all;", 2);
@@ -176,7 +187,10 @@ public final class OfficeTextTest {
     }
 
     private static void anOfficeBeginsAnew() {
-        UnlikeLoaves x = Office.of("finest 9;most 5;person ann due 1 of 2;have 3 by 2;likes size>2;costs 7;mice 100;bakes 4;");
+        UnlikeLoaves x = Office.of("finest 9;most 5;person ann due 1 of 2;have 3 by 2;likes size<4;costs 7;mice 100;bakes 4;");
+        x.days(4);
+        Office.due("served", x.person(0, 3), 3);
+        Office.due("hungry", x.person(0, 2), 1);
         x.chance(3);
         Office.see(x, 0, 0, 1);
         x.image();

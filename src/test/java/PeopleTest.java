@@ -8,6 +8,7 @@ public final class PeopleTest {
         stocks(x);
         kept();
         likesAsTheyAre();
+        edges();
         Office.end();
     }
 
@@ -77,9 +78,30 @@ public final class PeopleTest {
         Office.due("the latest", x.kept(39, 0), 31);
         Office.due("the latest person", x.kept(39, 1), 1);
         Office.due("none behind it", x.kept(40, 0), -1);
+        x.days(30);
+        Office.due("the oldest told", x.kept(0, 0), 42);
+        x.undo();
+        Office.due("the oldest told as it was", x.kept(0, 0), 12);
+        Office.due("the latest as it was", x.kept(39, 0), 31);
+        Office.due("its person as it was", x.kept(39, 1), 1);
+        Office.due("its set as it was", x.kept(39, 2), 8);
         x.undo();
         Office.due("has(7) as it was", x.has(7), 5);
         Office.due("kept(0, 1) as it was", x.kept(0, 1), 1);
+    }
+
+    private static void edges() {
+        UnlikeLoaves x = Office.of("finest 24;person a due 1 of 24;have 2 by 24;mice 100;");
+        Office.due("the finest", x.person(0, 5), 1 << 23);
+        Office.due("a day", x.days(1), 1);
+        Office.due("left", x.stock(24), 1);
+        // What an office before had is not here: 23/24 has no writing of one part.
+        Office.open(x, "finest 24;most 6;person a due 1 of 2;have 9 by 2;");
+        Office.open(x, "finest 24;most 1;person a due 23 of 24;have 9 by 2;");
+        Office.due("no writing", x.person(0, 4), 0);
+        Office.due("none to be taken", x.person(0, 5), -1);
+        Office.due("nobody is served", x.days(3), 0);
+        Office.due("none of it fits", Office.ask(x, "total fits 2"), 0);
     }
 
     private static void likesAsTheyAre() {

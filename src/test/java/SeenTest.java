@@ -51,6 +51,12 @@ public final class SeenTest {
         Office.due("size 0", x.stocks(0), -1);
         Office.due("size 4", x.stocks(4), -1);
         Office.due("the stock stays", x.stock(3), 4);
+        // Each number of pieces is tried from what is so now: day, hunger and the other sizes, too.
+        UnlikeLoaves y = Office.of("finest 3;person a due 5 of 6;have 2 by 2;likes day<9 and hunger<3;");
+        Office.see(y, 0, 0, 1, 1, 0, 1, 2, 0, 0);
+        Office.due("thirds", y.stocks(3), 2147483647 & ~3);
+        Office.see(y, 1, 0, 0);
+        Office.due("thirds", y.stocks(3), 3);
         // From now on: two days later the same rows tell of later days.
         Office.see(x, 0, 0, 1, 1, 0, 0);
         Office.due("ahead", x.stocks(3), 6);
@@ -71,6 +77,8 @@ public final class SeenTest {
         Office.due("another what", x.tells(3, -1), -1);
         Office.due("size 0", x.tells(0, 0), -1);
         Office.due("size 4", x.tells(4, 0), -1);
+        Office.due("a size that does not matter", x.tells(1, 2), 31);
+        Office.due("a size that does not matter, day", x.tells(1, 0), 0);
         // Of 3 to 6: day 2, a: 5, 6 against 3, 4.
         Office.see(x, 1, 0, 1, 3, 0, 0);
         Office.due("stocks", x.stocks(3), 8 + 16 + 32 + 64);
@@ -81,7 +89,7 @@ public final class SeenTest {
         Office.due("of one the first", x.tells(3, 0), 0);
         Office.due("of one the first person", x.tells(3, 1), 0);
         Office.due("of one", x.tells(3, 2), 1);
-        Office.due("a size that does not matter", x.tells(1, 2), -1);
+        Office.due("a size by which it can't be", x.tells(1, 2), -1);
         Office.see(x, 0, 0, 0, 0, 0, 1);
         for (int what = 0; what < 3; what++) {
             Office.due("none", x.tells(3, what), -1);
@@ -103,5 +111,9 @@ public final class SeenTest {
         Office.due("beyond tells", x.tells(3, 0), -1);
         Office.see(x, 3, 0, 1);
         Office.due("beyond", x.stocks(3), 0);
+        Office.open(x, "finest 3;person a due 1 of 3;");
+        Office.due("on", Office.on(x, Office.image(998, new int[] {0, 0, 2}, 0, 0)), true);
+        Office.due("one day tells", x.tells(3, 0), 0);
+        Office.due("one day leaves", x.tells(3, 2), 30);
     }
 }

@@ -20,6 +20,7 @@ public final class TapeTest {
         Office.due("status(0)", x.status(0), 6);
         bytesComeHighestFirst();
         theTapeGoes();
+        whatIsCutOffIsGone();
         Office.end();
     }
 
@@ -32,6 +33,19 @@ public final class TapeTest {
         x.feed(0x746f7461, 0x6c20312b, 0x322b332b, 0x342bff20, 0x20202020);
         Office.due("ask with byte 255", x.ask(), Office.NOTHING);
         Office.due("fault place", x.fault(1), 14);
+    }
+
+    private static void whatIsCutOffIsGone() {
+        UnlikeLoaves x = new UnlikeLoaves();
+        // "finest 9" with blanks, then with ";" behind it.
+        x.feed(0x66696e65, 0x73742039, 0x20202020, 0x20202020, 0x20202020);
+        x.end(8);
+        x.office();
+        Office.due("blanks cut off", x.fault(1), 8);
+        x.feed(0x66696e65, 0x73742039, 0x3b3b3b3b, 0x3b3b3b3b, 0x3b3b3b3b);
+        x.end(8);
+        Office.due("signs cut off", x.office(), -1);
+        Office.due("signs cut off", x.fault(1), 8);
     }
 
     private static void theTapeGoes() {

@@ -41,6 +41,7 @@ public final class WritingsTest {
             Office.due("fills", x.fills(share[0], share[1], 0, -1), -1);
         }
         Office.open(x, "finest 12;most 3;");
+        row(x, 1, 29);
         row(x, 1, 1, Office.set(1), Office.set(2, 3, 6));
         Office.open(x, "finest 24;most 6;");
         // No share has more writings than this one.
@@ -54,6 +55,7 @@ public final class WritingsTest {
         // 1/2 + 1/5 leaves 1/30, that no size up to 24 can give.
         Office.due("greedy(11, 15)", x.greedy(11, 15), -1);
         Office.due("shortest(11, 15)", x.shortest(11, 15), Office.set(2, 6, 15));
+        Office.due("greedy(1, 24)", x.greedy(1, 24), Office.set(24));
         Office.due("greedy(1, 23)", x.greedy(1, 23), Office.set(23));
         // 1 + 1/2 + 1/3 leaves 1/6 when three are taken.
         Office.due("greedy(2, 1)", x.greedy(2, 1), -1);
@@ -88,6 +90,8 @@ public final class WritingsTest {
         UnlikeLoaves x = Office.of("finest 12;");
         Office.due("cheapest by size", x.cheapest(1, 2, 0), Office.set(2));
         Office.due("its price", x.cheapest(1, 2, 1), 2);
+        Office.due("a loaf's price", x.cheapest(1, 1, 1), 1);
+        Office.due("price of a finest", x.cheapest(1, 12, 1), 12);
         Office.due("another what", x.cheapest(1, 2, 2), Office.NOTHING);
         Office.due("another what", x.cheapest(1, 2, -1), Office.NOTHING);
         Office.due("without one", x.cheapest(1, 13, 1), Office.NOTHING);
@@ -125,6 +129,15 @@ public final class WritingsTest {
         // The 24th sum of all parts.
         Office.due("all above", x.makes((1 << 24) - 1, 0), 1347822955L);
         Office.due("all below", x.makes((1 << 24) - 1, 1), 356948592L);
+        Office.due("a loaf", x.makes(1, 0), 1);
+        // Sizes of which no two have a common divisor, and their product all that there is.
+        int[] apart = {5, 7, 9, 11, 13, 16, 17, 19, 23};
+        long above = 0;
+        for (int n : apart) {
+            above += 5354228880L / n;
+        }
+        Office.due("nothing to shorten above", x.makes(Office.set(apart), 0), above);
+        Office.due("nothing to shorten below", x.makes(Office.set(apart), 1), 5354228880L);
         Office.due("none", x.makes(0, 0), Office.NOTHING);
         Office.due("size 25", x.makes(1 << 24, 0), Office.NOTHING);
         Office.due("below 0", x.makes(-1, 0), Office.NOTHING);
@@ -147,7 +160,8 @@ public final class WritingsTest {
         Office.due("no set", x.anew(1 << 24, 1, 1), -1);
         Office.due("no other", x.anew(1, 0, 1), -1);
         Office.due("no other", x.anew(1, 1 << 24, 2), -1);
-        Office.due("another how", x.anew(2, 2, 3), -1);
+        Office.due("another how", x.anew(2, 4, 3), -1);
+        Office.due("another how", x.anew(2, 4, Integer.MIN_VALUE), -1);
         Office.due("another how", x.anew(2, 2, -1), -1);
     }
 
@@ -172,6 +186,10 @@ public final class WritingsTest {
         Office.due("no set", x.mend(1, 2, 0, 0), -1);
         Office.due("no such size", x.mend(1, 2, 1 << 12, 0), -1);
         // 1 = 1/2 + 1/4 + 1/6 + 1/12 has four parts: with three at the most {3, 4, 6, 12} can't be mended.
+        Office.due("a loaf goes", x.mend(1, 12, Office.set(1), 1), 1);
+        Office.due("the finest comes", x.mend(1, 12, Office.set(1), 2), 12);
+        Office.due("the finest goes", x.mend(1, 1, Office.set(12), 1), 12);
+        Office.due("a loaf comes", x.mend(1, 1, Office.set(12), 2), 1);
         Office.due("too many parts", x.mend(1, 1, Office.set(3, 4, 6, 12), 0), 0);
         Office.due("too many to be one", x.mend(1, 1, Office.set(2, 4, 6, 12), 0), 0);
         Office.open(x, "finest 12;most 4;");
