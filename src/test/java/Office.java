@@ -65,9 +65,49 @@ final class Office {
         return x;
     }
 
+    /** The text is an office of so many statements. */
+    static UnlikeLoaves stands(String text, int statements) {
+        UnlikeLoaves x = new UnlikeLoaves();
+        due(text, open(x, text), statements);
+        due("fault(0) of " + text, x.fault(0), 0);
+        due("fault(1) of " + text, x.fault(1), -1);
+        due("status(1) of " + text, x.status(1), 0);
+        return x;
+    }
+
+    /** The text has this fault at this place. */
+    static void faulty(String text, int fault, int place) {
+        UnlikeLoaves x = new UnlikeLoaves();
+        due(text, open(x, text), -1);
+        due("fault(0) of " + text, x.fault(0), fault);
+        due("fault(1) of " + text, x.fault(1), place);
+        due("status(1) of " + text, x.status(1), 1);
+    }
+
+    /** An office in which all is as the image tells. */
+    static UnlikeLoaves at(String text, int... image) {
+        UnlikeLoaves x = of(text);
+        due("image on " + text, on(x, image), true);
+        return x;
+    }
+
     static long ask(UnlikeLoaves x, String text) {
         feed(x, text);
         return x.ask();
+    }
+
+    /** The text is a question with this answer. */
+    static void asked(UnlikeLoaves x, String text, long answer) {
+        due(text, ask(x, text), answer);
+        due("fault(0) of " + text, x.fault(0), 0);
+        due("fault(1) of " + text, x.fault(1), -1);
+    }
+
+    /** The text is a question with this fault at this place. */
+    static void unasked(UnlikeLoaves x, String text, int fault, int place) {
+        due(text, ask(x, text), NOTHING);
+        due("fault(0) of " + text, x.fault(0), fault);
+        due("fault(1) of " + text, x.fault(1), place);
     }
 
     static int see(UnlikeLoaves x, int... rows) {

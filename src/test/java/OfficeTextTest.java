@@ -11,160 +11,143 @@ public final class OfficeTextTest {
         Office.end();
     }
 
-    private static void good(String text, int statements) {
-        UnlikeLoaves x = new UnlikeLoaves();
-        Office.due(text, Office.open(x, text), statements);
-        Office.due("fault(0) of " + text, x.fault(0), 0);
-        Office.due("fault(1) of " + text, x.fault(1), -1);
-        Office.due("status(1) of " + text, x.status(1), 0);
-    }
-
-    private static void wrong(String text, int fault, int place) {
-        UnlikeLoaves x = new UnlikeLoaves();
-        Office.due(text, Office.open(x, text), -1);
-        Office.due("fault(0) of " + text, x.fault(0), fault);
-        Office.due("fault(1) of " + text, x.fault(1), place);
-        Office.due("fault(2) of " + text, x.fault(2), -1);
-        Office.due("status(1) of " + text, x.status(1), 1);
-    }
-
     private static void goodTexts() {
-        good("finest 2;", 1);
-        good(" \n finest\n24 ; ", 1);
-        good("finest 0009;", 1);
-        good("finest 9;most 1;most 6;bakes 0;bakes 9;mice 0;mice 100;", 7);
-        good("finest 9;person first due 1 of 24;person last due 24 of 1;person often due 1 of 1;", 4);
-        good("finest 9;have 99 by 9;have 1 by 1;", 3);
-        good("finest 9;costs 9999/(size-stock*day)+min(place,0)-max ( 1 , 2 );likes not[all]or 1<2and 3>2 and 1=1;"
+        Office.stands("finest 2;", 1);
+        Office.stands(" \n finest\n24 ; ", 1);
+        Office.stands("finest 0009;", 1);
+        Office.stands("finest 9;most 1;most 6;bakes 0;bakes 9;mice 0;mice 100;", 7);
+        Office.stands("finest 9;person first due 1 of 24;person last due 24 of 1;person often due 1 of 1;", 4);
+        Office.stands("finest 9;have 99 by 9;have 1 by 1;", 3);
+        Office.stands("finest 9;costs 9999/(size-stock*day)+min(place,0)-max ( 1 , 2 );likes not[all]or 1<2and 3>2 and 1=1;"
             .replace("2and", "2 and"), 3);
-        good("finest 9;likes[all];", 2);
-        good("finest 9;likes hunger=1or all;".replace("1or", "1 or"), 2);
-        good("finest 9;" + "most 3;".repeat(59), 60);
-        good("finest 9;" + "most 3;".repeat(59) + " \n ", 60);
+        Office.stands("finest 9;likes[all];", 2);
+        Office.stands("finest 9;likes hunger=1or all;".replace("1or", "1 or"), 2);
+        Office.stands("finest 9;" + "most 3;".repeat(59), 60);
+        Office.stands("finest 9;" + "most 3;".repeat(59) + " \n ", 60);
     }
 
     private static void wrongTexts() {
-        wrong("", 1, 0);
-        wrong("  \n", 1, 3);
-        wrong(";", 1, 0);
-        wrong("most 3;", 1, 0);
-        wrong("fin", 1, 0);
-        wrong("binest 9;", 1, 0);
-        wrong("Finest 9;", 1, 0);
-        wrong("finest", 1, 6);
-        wrong("finest  ", 1, 8);
-        wrong("finest9;", 1, 6);
-        wrong("finest 9", 1, 8);
-        wrong("finest 9  ", 1, 10);
-        wrong("finest\t9;", 1, 6);
-        wrong("finest 9;;", 1, 9);
-        wrong("finest 9; finest 9;", 1, 10);
-        wrong("finest 9 most 3;", 1, 9);
-        wrong("finest 9most 3;", 1, 8);
-        wrong("finest 12345;", 1, 11);
-        wrong("finest 9;breaks 1;", 1, 9);
-        wrong("finest 9;person", 1, 15);
-        wrong("finest 9;person 1", 1, 16);
-        wrong("finest 9;person ann of 1", 1, 20);
-        wrong("finest 9;person a1", 1, 17);
-        wrong("finest 9;person ann due 1of 2;", 1, 25);
-        wrong("finest 9;person ann due 1 of2;", 1, 28);
-        wrong("finest 9;person ann due x", 1, 24);
-        wrong("finest 9;have 3 of 3;", 1, 16);
-        wrong("finest 9;have 3by 3;", 1, 15);
-        wrong("finest 9;have 3 by;", 1, 18);
-        wrong("finest 9;costs;", 1, 14);
-        wrong("finest 9;costs all;", 1, 15);
-        wrong("finest 9;costs size<2;", 1, 19);
-        wrong("finest 9;costs number;", 1, 15);
-        wrong("finest 9;costs min 1;", 1, 19);
-        wrong("finest 9;costs min(1;", 1, 20);
-        wrong("finest 9;costs min(1,2;", 1, 22);
-        wrong("finest 9;costs (1;", 1, 17);
-        wrong("finest 9;costs -1;", 1, 15);
-        wrong("finest 9;costs 1+;", 1, 17);
-        wrong("finest 9;costs 10000;", 1, 19);
-        wrong("finest 9;costs 1 size;", 1, 17);
-        wrong("finest 9;costs 1size;", 1, 16);
-        wrong("finest 9;costs size2;", 1, 19);
-        wrong("finest 9;likes;", 1, 14);
-        wrong("finest 9;likes size;", 1, 19);
-        wrong("finest 9;likes place=1;", 1, 15);
-        wrong("finest 9;likes 1<2<3;", 1, 18);
-        wrong("finest 9;likes [all;", 1, 19);
-        wrong("finest 9;likes (all);", 1, 16);
-        wrong("finest 9;likes all all;", 1, 19);
-        wrong("finest 9;likes all or;", 1, 21);
-        wrong("finest 9;likes all and;", 1, 22);
-        wrong("finest 9;likes all and place", 1, 23);
-        wrong("finest 9;likes all or all and place=1", 1, 30);
-        wrong("finest 9;costs 2*;", 1, 17);
-        wrong("finest 9;costs 2*hunger", 1, 17);
-        wrong("finest 9;likes not;", 1, 18);
-        wrong("finest 9;likes 1<2or all;", 1, 18);
-        wrong("finest 9;likes stock 2>1;", 1, 21);
-        wrong("finest 9;likes all;" + (char) 233, 1, 19);
+        Office.faulty("", 1, 0);
+        Office.faulty("  \n", 1, 3);
+        Office.faulty(";", 1, 0);
+        Office.faulty("most 3;", 1, 0);
+        Office.faulty("fin", 1, 0);
+        Office.faulty("binest 9;", 1, 0);
+        Office.faulty("Finest 9;", 1, 0);
+        Office.faulty("finest", 1, 6);
+        Office.faulty("finest  ", 1, 8);
+        Office.faulty("finest9;", 1, 6);
+        Office.faulty("finest 9", 1, 8);
+        Office.faulty("finest 9  ", 1, 10);
+        Office.faulty("finest\t9;", 1, 6);
+        Office.faulty("finest 9;;", 1, 9);
+        Office.faulty("finest 9; finest 9;", 1, 10);
+        Office.faulty("finest 9 most 3;", 1, 9);
+        Office.faulty("finest 9most 3;", 1, 8);
+        Office.faulty("finest 12345;", 1, 11);
+        Office.faulty("finest 9;breaks 1;", 1, 9);
+        Office.faulty("finest 9;person", 1, 15);
+        Office.faulty("finest 9;person 1", 1, 16);
+        Office.faulty("finest 9;person ann of 1", 1, 20);
+        Office.faulty("finest 9;person a1", 1, 17);
+        Office.faulty("finest 9;person ann due 1of 2;", 1, 25);
+        Office.faulty("finest 9;person ann due 1 of2;", 1, 28);
+        Office.faulty("finest 9;person ann due x", 1, 24);
+        Office.faulty("finest 9;have 3 of 3;", 1, 16);
+        Office.faulty("finest 9;have 3by 3;", 1, 15);
+        Office.faulty("finest 9;have 3 by;", 1, 18);
+        Office.faulty("finest 9;costs;", 1, 14);
+        Office.faulty("finest 9;costs all;", 1, 15);
+        Office.faulty("finest 9;costs size<2;", 1, 19);
+        Office.faulty("finest 9;costs number;", 1, 15);
+        Office.faulty("finest 9;costs min 1;", 1, 19);
+        Office.faulty("finest 9;costs min(1;", 1, 20);
+        Office.faulty("finest 9;costs min(1,2;", 1, 22);
+        Office.faulty("finest 9;costs (1;", 1, 17);
+        Office.faulty("finest 9;costs -1;", 1, 15);
+        Office.faulty("finest 9;costs 1+;", 1, 17);
+        Office.faulty("finest 9;costs 10000;", 1, 19);
+        Office.faulty("finest 9;costs 1 size;", 1, 17);
+        Office.faulty("finest 9;costs 1size;", 1, 16);
+        Office.faulty("finest 9;costs size2;", 1, 19);
+        Office.faulty("finest 9;likes;", 1, 14);
+        Office.faulty("finest 9;likes size;", 1, 19);
+        Office.faulty("finest 9;likes place=1;", 1, 15);
+        Office.faulty("finest 9;likes 1<2<3;", 1, 18);
+        Office.faulty("finest 9;likes [all;", 1, 19);
+        Office.faulty("finest 9;likes (all);", 1, 16);
+        Office.faulty("finest 9;likes all all;", 1, 19);
+        Office.faulty("finest 9;likes all or;", 1, 21);
+        Office.faulty("finest 9;likes all and;", 1, 22);
+        Office.faulty("finest 9;likes all and place", 1, 23);
+        Office.faulty("finest 9;likes all or all and place=1", 1, 30);
+        Office.faulty("finest 9;costs 2*;", 1, 17);
+        Office.faulty("finest 9;costs 2*hunger", 1, 17);
+        Office.faulty("finest 9;likes not;", 1, 18);
+        Office.faulty("finest 9;likes 1<2or all;", 1, 18);
+        Office.faulty("finest 9;likes stock 2>1;", 1, 21);
+        Office.faulty("finest 9;likes all;" + (char) 233, 1, 19);
     }
 
     private static void wrongNumbers() {
-        wrong("finest 1;", 2, 7);
-        wrong("finest 25;", 2, 7);
-        wrong("finest 9;most 0;", 2, 14);
-        wrong("finest 9;most 7x", 2, 14);
-        wrong("finest 9;bakes 10;", 2, 15);
-        wrong("finest 9;mice 101;", 2, 14);
-        wrong("finest 9;have 0 by 1;", 2, 14);
-        wrong("finest 9;have 100 by 1;", 2, 14);
-        wrong("finest 9;have 1 by 0;", 2, 19);
-        wrong("finest 9;have 1 by 10;", 2, 19);
-        wrong("finest 9;have 1 by 9999;", 2, 19);
-        wrong("finest 9;have 1 by 3;have 2 by 03;", 2, 31);
-        wrong("finest 9;person a due 0 of 1;", 2, 22);
-        wrong("finest 9;person a due 25 of 1;", 2, 22);
-        wrong("finest 9;person a due 1 of 0;", 2, 27);
-        wrong("finest 9;person a due 1 of 25;", 2, 27);
+        Office.faulty("finest 1;", 2, 7);
+        Office.faulty("finest 25;", 2, 7);
+        Office.faulty("finest 9;most 0;", 2, 14);
+        Office.faulty("finest 9;most 7x", 2, 14);
+        Office.faulty("finest 9;bakes 10;", 2, 15);
+        Office.faulty("finest 9;mice 101;", 2, 14);
+        Office.faulty("finest 9;have 0 by 1;", 2, 14);
+        Office.faulty("finest 9;have 100 by 1;", 2, 14);
+        Office.faulty("finest 9;have 1 by 0;", 2, 19);
+        Office.faulty("finest 9;have 1 by 10;", 2, 19);
+        Office.faulty("finest 9;have 1 by 9999;", 2, 19);
+        Office.faulty("finest 9;have 1 by 3;have 2 by 03;", 2, 31);
+        Office.faulty("finest 9;person a due 0 of 1;", 2, 22);
+        Office.faulty("finest 9;person a due 25 of 1;", 2, 22);
+        Office.faulty("finest 9;person a due 1 of 0;", 2, 27);
+        Office.faulty("finest 9;person a due 1 of 25;", 2, 27);
     }
 
     private static void namesAndKinds() {
         String[] own = ("finest most person due of have by bakes costs likes mice size stock place day hunger number top"
             + " bottom ways had fits or and not all min max").split(" ");
         for (String word : own) {
-            wrong("finest 9;person " + word + " due 1 of 2;", 1, 16);
+            Office.faulty("finest 9;person " + word + " due 1 of 2;", 1, 16);
         }
-        wrong("finest 9;person abcdefg due 1 of 2;", 1, 22);
-        wrong("finest 9;person finests due 1 of 2;", 1, 22);
-        wrong("finest 9;person ab due 1 of 2;person ab due 1 of 2;", 3, 37);
-        good("finest 9;person ab due 1 of 2;person a due 1 of 2;person abc due 1 of 2;", 4);
+        Office.faulty("finest 9;person abcdefg due 1 of 2;", 1, 22);
+        Office.faulty("finest 9;person finests due 1 of 2;", 1, 22);
+        Office.faulty("finest 9;person ab due 1 of 2;person ab due 1 of 2;", 3, 37);
+        Office.stands("finest 9;person ab due 1 of 2;person a due 1 of 2;person abc due 1 of 2;", 4);
         String six = "finest 9;person a due 1 of 2;person b due 1 of 2;person c due 1 of 2;person d due 1 of 2;"
             + "person e due 1 of 2;person f due 1 of 2;";
-        good(six, 7);
-        wrong(six + "person", 5, six.length());
-        wrong(six + "person a", 5, six.length());
-        wrong("finest 9;costs 1;costs", 5, 17);
-        wrong("finest 9;likes all;likes", 5, 19);
+        Office.stands(six, 7);
+        Office.faulty(six + "person", 5, six.length());
+        Office.faulty(six + "person a", 5, six.length());
+        Office.faulty("finest 9;costs 1;costs", 5, 17);
+        Office.faulty("finest 9;likes all;likes", 5, 19);
         String sixty = "finest 9;" + "most 3;".repeat(59);
-        wrong(sixty + " most 3;", 5, sixty.length() + 1);
-        wrong(sixty + "%", 5, sixty.length());
-        wrong(sixty + "finest", 5, sixty.length());
+        Office.faulty(sixty + " most 3;", 5, sixty.length() + 1);
+        Office.faulty(sixty + "%", 5, sixty.length());
+        Office.faulty(sixty + "finest", 5, sixty.length());
     }
 
     private static void openAtOnce() {
-        good("finest 9;costs ((((((1))))));", 2);
-        wrong("finest 9;costs (((((((1)))))));", 4, 21);
-        good("finest 9;costs ((((((1))))))+((((((1))))));", 2);
-        wrong("finest 9;costs ((((((min(1,2)))))));", 4, 24);
-        good("finest 9;costs min(min(min(min(min(min(1,2),2),2),2),2),2);", 2);
-        wrong("finest 9;costs min(min(min(min(min(min((1),2),2),2),2),2),2);", 4, 39);
-        good("finest 9;costs max(2,max(2,max(2,max(2,max(2,max(2,1))))));", 2);
-        wrong("finest 9;costs max(2,max(2,max(2,max(2,max(2,max(2,(1)))))));", 4, 51);
-        good("finest 9;costs max(2,(((((1))))))+max((((((1))))),2);", 2);
-        good("finest 9;likes not not not not not not all;", 2);
-        wrong("finest 9;likes not not not not not not not all;", 4, 39);
-        good("finest 9;likes not not not not not not all and not all;", 2);
+        Office.stands("finest 9;costs ((((((1))))));", 2);
+        Office.faulty("finest 9;costs (((((((1)))))));", 4, 21);
+        Office.stands("finest 9;costs ((((((1))))))+((((((1))))));", 2);
+        Office.faulty("finest 9;costs ((((((min(1,2)))))));", 4, 24);
+        Office.stands("finest 9;costs min(min(min(min(min(min(1,2),2),2),2),2),2);", 2);
+        Office.faulty("finest 9;costs min(min(min(min(min(min((1),2),2),2),2),2),2);", 4, 39);
+        Office.stands("finest 9;costs max(2,max(2,max(2,max(2,max(2,max(2,1))))));", 2);
+        Office.faulty("finest 9;costs max(2,max(2,max(2,max(2,max(2,max(2,(1)))))));", 4, 51);
+        Office.stands("finest 9;costs max(2,(((((1))))))+max((((((1))))),2);", 2);
+        Office.stands("finest 9;likes not not not not not not all;", 2);
+        Office.faulty("finest 9;likes not not not not not not not all;", 4, 39);
+        Office.stands("finest 9;likes not not not not not not all and not all;", 2);
         String closed = "finest 9;likes not[not[(1)=1 and not 1=1]] or ";
-        wrong(closed + "[[[[[[[all]]]]]]];", 4, closed.length() + 6);
-        wrong("finest 9;likes not[not[not[(1)=1]]];", 4, 27);
-        good("finest 9;likes not[not[not 1=(1)]];", 2);
+        Office.faulty(closed + "[[[[[[[all]]]]]]];", 4, closed.length() + 6);
+        Office.faulty("finest 9;likes not[not[not[(1)=1]]];", 4, 27);
+        Office.stands("finest 9;likes not[not[not 1=(1)]];", 2);
     }
 
     private static void aFaultLeavesAll() {
