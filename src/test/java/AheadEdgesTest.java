@@ -165,6 +165,9 @@ public final class AheadEdgesTest {
             Office.due("one cut into " + n, x.cuts(-1), 1);
             Office.due("into " + n, x.cuts(0), n);
         }
+        UnlikeLoaves none = Office.of("finest 24;person a due 1 of 24;have 9 by 1;likes size<24;");
+        Office.due("no row of three up to 24", none.cuts(-1), -1);
+        Office.due("no size", none.cuts(0), -1);
         // A loaf cut into one piece would still be there.
         UnlikeLoaves x = Office.of("finest 24;" + LOAF + "have 2 by 1;likes stock<2;");
         Office.due("one less", x.cuts(-1), 1);

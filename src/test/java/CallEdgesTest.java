@@ -10,6 +10,7 @@ public final class CallEdgesTest {
         bytesOfTheTape();
         endOfTheTape();
         officeIsRead();
+        officeAnew();
         withoutAStatement();
         faultsOfTheLatest();
         hasOfOthers();
@@ -137,6 +138,28 @@ public final class CallEdgesTest {
         Office.due("1599 bytes", long1600.length(), 1599);
         Office.due("a long sum", Office.open(x, long1600), 2);
         Office.due("its price", x.cheapest(1, 1, 1), 792);
+    }
+
+    /** "Without one all is as at first": nothing of the office before is left. */
+    private static void officeAnew() {
+        String stock = "have 9 by 1;have 9 by 2;have 9 by 3;have 9 by 6;";
+        UnlikeLoaves x = Office.of("finest 12;person a due 1 of 1;person b due 1 of 2;costs 3;bakes 9;mice 100;most 6;" + stock);
+        x.days(3);
+        x.bake(1);
+        Office.see(x, 0, 0, 1);
+        // The one writing of two loaves has a loaf, which nobody likes; a loaf's writing without it is not his.
+        Office.open(x, "finest 6;person a due 2 of 1;" + stock + "likes size>1;");
+        int[] has = {6, 4, 1, 0, 36, 0, 0, 0, 0, 0};
+        for (int what = 0; what < has.length; what++) {
+            Office.due("has(" + what + ")", x.has(what), has[what]);
+        }
+        Office.due("one writing", x.person(0, 4), 1);
+        Office.due("none to be taken", x.person(0, 5), -1);
+        Office.due("no day serves him", x.days(9), 0);
+        Office.due("nothing baked, nothing gone", x.has(4), 36);
+        Office.due("no second person", x.person(1, 0), -1);
+        Office.due("costs", x.cheapest(1, 6, 1), 6);
+        Office.due("all stocks", x.stocks(6), MAX);
     }
 
     /** "one without a STATEMENT has FAULT 1 at its length". */

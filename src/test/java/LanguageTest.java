@@ -1,11 +1,15 @@
 import java.io.IOException;
+import java.lang.reflect.Array;
 import java.lang.reflect.Constructor;
 import java.lang.reflect.Field;
 import java.lang.reflect.Method;
 import java.lang.reflect.Modifier;
 import java.nio.file.Files;
 import java.nio.file.Path;
+import java.util.ArrayDeque;
+import java.util.Collections;
 import java.util.HashSet;
+import java.util.IdentityHashMap;
 import java.util.Set;
 import java.util.TreeSet;
 import java.util.regex.Matcher;
@@ -18,13 +22,56 @@ public final class LanguageTest {
         "cuts", "feast", "odds", "see", "stocks", "tells", "cut", "bake", "serve", "days", "chance", "undo", "seed", "ask",
         "image", "octet", "on", "status");
 
-    public static void main(String[] args) throws IOException {
+    public static void main(String[] args) throws IOException, IllegalAccessException {
         String source = Files.readString(Path.of("src/main/java/UnlikeLoaves.java"));
         words(source);
         face();
         classes();
         methodLengths(source);
+        room(source);
         Office.end();
+    }
+
+    /** "A run lives in one room": an object is small, and no call makes another. */
+    private static void room(String source) throws IllegalAccessException {
+        int[] made = size(new UnlikeLoaves());
+        Office.due("objects and arrays, " + made[0], made[0] < 250, true);
+        Office.due("fields and elements, " + made[1], made[1] < 16000, true);
+        for (String line : source.split("\n")) {
+            boolean inCall = line.contains("new ") && !line.trim().startsWith("*") && !line.trim().startsWith("//");
+            boolean field = line.matches(" +(static |private |final )*[\\w\\[\\]]+ \\w+ = new .*;");
+            Office.due("made in a call: " + line.trim(), inCall && !field && !line.contains("states[i] = new State();"), false);
+        }
+    }
+
+    private static int[] size(Object root) throws IllegalAccessException {
+        Set<Object> seen = Collections.newSetFromMap(new IdentityHashMap<>());
+        ArrayDeque<Object> open = new ArrayDeque<>(Set.of(root));
+        int elements = 0;
+        while (!open.isEmpty()) {
+            Object x = open.pop();
+            if (!seen.add(x)) {
+                continue;
+            }
+            if (x.getClass().isArray()) {
+                elements += Array.getLength(x);
+                for (int i = 0; x instanceof Object[] && i < Array.getLength(x); i++) {
+                    open.push(Array.get(x, i));
+                }
+                continue;
+            }
+            for (Field f : x.getClass().getDeclaredFields()) {
+                if (!Modifier.isStatic(f.getModifiers())) {
+                    elements++;
+                    f.setAccessible(true);
+                    Object inside = f.getType().isPrimitive() ? null : f.get(x);
+                    if (inside != null) {
+                        open.push(inside);
+                    }
+                }
+            }
+        }
+        return new int[] {seen.size(), elements};
     }
 
     private static void words(String source) {

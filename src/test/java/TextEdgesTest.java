@@ -443,6 +443,11 @@ public final class TextEdgesTest {
             faulty("finest 9" + other + ";", 1, 8);
             faulty(NINE + other, 1, 9);
         }
+        for (char other : "/:@[`{".toCharArray()) {
+            faulty("finest " + other + ";", 1, 7);
+            faulty("finest 9" + other + ";", 1, 8);
+            faulty("finest" + other + " 9;", 1, 6);
+        }
         faulty("fin est 9;", 1, 0);
         faulty("finest 1 2;", 2, 7);
         faulty("finest 9 2;", 1, 9);
