@@ -666,21 +666,20 @@ public final class UnlikeLoaves {
                 kind = END;
                 return;
             }
-            kind = kindOf(tape.bytes[stop]);
-            stop++;
-            while (kind != SIGN && stop < tape.count && kindOf(tape.bytes[stop]) == kind) {
+            boolean word = tape.bytes[at] >= 'a' && tape.bytes[at] <= 'z';
+            char least = word ? 'a' : '0';
+            char most = word ? 'z' : '9';
+            while (stop < tape.count && tape.bytes[stop] >= least && tape.bytes[stop] <= most) {
                 stop++;
             }
-            if (needsBlank && at == before && kind != SIGN) {
+            if (stop == at) {
+                kind = SIGN;
+                stop++;
+            } else if (needsBlank && at == before) {
                 kind = STUCK;
+            } else {
+                kind = word ? WORD : NUMBER;
             }
-        }
-
-        private static int kindOf(int sign) {
-            if (sign >= 'a' && sign <= 'z') {
-                return WORD;
-            }
-            return sign >= '0' && sign <= '9' ? NUMBER : SIGN;
         }
 
         boolean fail(int what) {
@@ -699,12 +698,20 @@ public final class UnlikeLoaves {
         }
 
         boolean isWord(String word) {
-            return kind == WORD && stop - at == word.length() && lettersStandIn(word, 0);
+            if (kind != WORD || stop - at != word.length()) {
+                return false;
+            }
+            for (int i = 0; i < word.length(); i++) {
+                if (tape.bytes[at + i] != word.charAt(i)) {
+                    return false;
+                }
+            }
+            return true;
         }
 
-        private boolean lettersStandIn(String words, int from) {
+        private boolean isOwnWordFrom(int from) {
             for (int i = 0; at + i < stop; i++) {
-                if (from + i >= words.length() || tape.bytes[at + i] != words.charAt(from + i)) {
+                if (from + i >= OWN_WORDS.length() || tape.bytes[at + i] != OWN_WORDS.charAt(from + i)) {
                     return false;
                 }
             }
@@ -715,7 +722,7 @@ public final class UnlikeLoaves {
             int from = 0;
             for (int i = 0; i <= OWN_WORDS.length(); i++) {
                 if (i == OWN_WORDS.length() || OWN_WORDS.charAt(i) == ' ') {
-                    if (i - from == stop - at && lettersStandIn(OWN_WORDS, from)) {
+                    if (i - from == stop - at && isOwnWordFrom(from)) {
                         return true;
                     }
                     from = i + 1;
@@ -987,7 +994,10 @@ public final class UnlikeLoaves {
         }
 
         private boolean put(int code) {
-            return putWith(code, 0);
+            if (out != null) {
+                out.add(code, 0);
+            }
+            return true;
         }
 
         private boolean putWith(int code, int value) {

@@ -1,4 +1,5 @@
 import java.nio.charset.StandardCharsets;
+import java.util.function.ObjIntConsumer;
 
 /** What the tests share: texts onto the tape, and a count of the answers that are not due. */
 final class Office {
@@ -82,6 +83,27 @@ final class Office {
         due("fault(0) of " + text, x.fault(0), fault);
         due("fault(1) of " + text, x.fault(1), place);
         due("status(1) of " + text, x.status(1), 1);
+    }
+
+    /** The text with one letter of a word (not of a NAME of one letter) another one, gone or one too many, and the word's place. */
+    static void misspelt(String text, ObjIntConsumer<String> each) {
+        for (int from = 0; from < text.length(); from++) {
+            int to = from;
+            while (to < text.length() && Character.isLetter(text.charAt(to))) {
+                to++;
+            }
+            for (int i = from; i < to && to - from > 1; i++) {
+                String ahead = text.substring(0, i);
+                String behind = text.substring(i + 1);
+                each.accept(ahead + "q" + behind, from);
+                each.accept(ahead + text.charAt(i) + "q" + behind, from);
+                // Without its e least is last, which is another word.
+                if (!text.startsWith("least", from) || text.charAt(i) != 'e') {
+                    each.accept(ahead + behind, from);
+                }
+            }
+            from = to;
+        }
     }
 
     /** An office in which all is as the image tells. */

@@ -22,6 +22,7 @@ public final class QuestionEdgesTest {
         digits();
         tooSoon();
         unknownWords();
+        eachLetterOfAWord();
         whatStandsBehind();
         sixOpen();
         untilItsPartEnds();
@@ -254,6 +255,17 @@ public final class QuestionEdgesTest {
         unasked("total stocks 1", 1, 6);
         unasked("total fit 1", 1, 6);
         unasked("often all an all", 1, 10);
+    }
+
+    /** "(an unknown word at its first byte ..)". */
+    private static void eachLetterOfAWord() {
+        UnlikeLoaves x = Office.of(SIX);
+        String sum = "number+hunger+top+bottom+ways+had+day+stock 1+fits 1+min(1,2)+max(1,2)";
+        String[] questions = {"first not all and all or " + sum + "=0", "last all", "often all", "total " + sum, "most 1", "least 1"};
+        for (String question : questions) {
+            Office.due(question, Office.ask(x, question) != Office.NOTHING, true);
+            Office.misspelt(question, (changed, place) -> unasked(changed, 1, place));
+        }
     }
 
     /** "what stands behind it, too". */

@@ -35,6 +35,7 @@ public final class TextEdgesTest {
         blanks();
         blanksThatAreNeeded();
         wordsAndNumbersWhole();
+        eachLetterOfAWord();
         tooSoon();
         sixOpen();
         notUntilItsFactEnds();
@@ -499,6 +500,14 @@ public final class TextEdgesTest {
         faulty("finest nine;", 1, 7);
         faulty("finest 9 10;", 1, 9);
         faulty(NINE + "costs 1+2 34;", 1, 19);
+    }
+
+    /** "1 the first byte with which no such text goes on (words .. whole, at their first byte; ..)". */
+    private static void eachLetterOfAWord() {
+        String text = NINE + "most 3;person p due 1 of 2;have 3 by 2;bakes 1;costs size+stock+day+place+min(1,2)+max(1,2);"
+            + "likes not all and all or size+stock+day+hunger>min(1,2)+max(1,2);mice 5;";
+        stands(text, 8);
+        Office.misspelt(text, (changed, place) -> faulty(changed, 1, place));
     }
 
     /** "at the text's length, if it ends too soon". */
